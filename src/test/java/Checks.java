@@ -1,0 +1,41 @@
+import java.util.Objects;
+
+/** What all tests use: each check that fails is printed, and finish() ends with exit code 1 if there was one. */
+final class Checks {
+    interface Call {
+        Object answer();
+    }
+
+    private static int made = 0;
+    private static int wrong = 0;
+
+    private Checks() {
+    }
+
+    static void due(String what, Object got, Object want) {
+        made++;
+        if (!Objects.equals(got, want)) {
+            wrong++;
+            System.out.println(what + " answered " + got + ", due is " + want);
+        }
+    }
+
+    /** The exact class is asked for, as the machine's own exceptions are classes below the document's. */
+    static void throwing(String what, Class<? extends RuntimeException> want, Call call) {
+        Object got;
+        try {
+            got = call.answer();
+        } catch (RuntimeException e) {
+            got = e.getClass();
+        }
+        due(what, got, want);
+    }
+
+    static void finish() {
+        if (made == 0 || wrong != 0) {
+            System.out.println(wrong + " of " + made + " checks failed");
+            System.exit(1);
+        }
+        System.out.println(made + " checks hold");
+    }
+}

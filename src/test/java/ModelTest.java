@@ -1,0 +1,209 @@
+import java.util.Random;
+
+/** Runs of drawn calls, the same on the class and on the plain model of the document; all answers have to agree. */
+public final class ModelTest {
+    private static final int RUNS = 300;
+    private static final int CALLS = 60;
+    private static final int MOST_ROADS = 13;
+
+    private final Random random;
+    private final String run;
+    private final Hundredward town = new Hundredward();
+    private final Model model = new Model();
+    private int roads = 0;
+
+    private ModelTest(int seed) {
+        random = new Random(seed);
+        run = "run " + seed + ": ";
+    }
+
+    public static void main(String[] args) {
+        int runs = args.length > 0 ? Integer.parseInt(args[0]) : RUNS;
+        for (int seed = 0; seed < runs; seed++) {
+            ModelTest test = new ModelTest(seed);
+            test.lay();
+            for (int i = 0; i < CALLS; i++) {
+                test.call();
+            }
+            test.compareAll();
+        }
+        Checks.finish();
+    }
+
+    private static Object answer(Checks.Call call) {
+        try {
+            return call.answer();
+        } catch (RuntimeException e) {
+            return e.getClass();
+        }
+    }
+
+    private void same(String what, Checks.Call got, Checks.Call want) {
+        Checks.due(run + what, answer(got), answer(want));
+    }
+
+    private int draw(int least, int most) {
+        return least + random.nextInt(most - least + 1);
+    }
+
+    /** Mostly a number that fits, now and then one from beyond an edge. */
+    private int drawOver(int least, int most) {
+        int kind = random.nextInt(40);
+        if (kind == 0) {
+            return least - 1;
+        }
+        return kind == 1 ? most + 1 : draw(least, most);
+    }
+
+    private void lay() {
+        for (int i = draw(0, 1); i > 0; i--) {
+            borrow(draw(300, 900));
+        }
+        String kinds = random.nextBoolean() ? "rrrrhhhsffw" : "rrrrrrhhhhsfw";
+        for (int i = draw(6, 22); i > 0; i--) {
+            build(draw(0, 24), kinds.charAt(random.nextInt(kinds.length())));
+        }
+        for (int i = 0; i < 25; i++) {
+            if (model.built[i] == 's' || model.built[i] == 'f') {
+                found(i, draw(1, 30), draw(1, 15));
+            }
+        }
+        for (int i = draw(1, 10); i > 0; i--) {
+            arrive(draw(0, 3), draw(0, 300));
+        }
+    }
+
+    private void borrow(int amount) {
+        same("borrow " + amount, () -> town.borrow(amount), () -> model.borrow(amount));
+    }
+
+    private void build(int plot, char kind) {
+        if (kind == 'r' && roads >= MOST_ROADS) {
+            return;
+        }
+        roads += kind == 'r' ? 1 : 0;
+        same("build " + plot + kind, () -> town.build(plot, kind), () -> model.build(plot, kind));
+    }
+
+    private void found(int plot, int wage, int price) {
+        same("found " + plot, () -> town.found(plot, wage, price), () -> model.found(plot, wage, price));
+    }
+
+    private void arrive(int skill, int money) {
+        same("arrive " + skill + " " + money, () -> town.arrive(skill, money), () -> model.arrive(skill, money));
+    }
+
+    private void pass(int days) {
+        same("pass " + days, () -> town.pass(days), () -> model.pass(days));
+        compareAll();
+    }
+
+    private void call() {
+        int kind = random.nextInt(30);
+        if (kind < 6) {
+            pass(drawOver(1, random.nextInt(8) == 0 ? 10 : 2));
+        } else if (kind < 10) {
+            build(drawOver(0, 24), "rhsfwrhhx.".charAt(random.nextInt(10)));
+        } else if (kind < 12) {
+            int plot = drawOver(0, 24);
+            same("takeDown " + plot, () -> town.takeDown(plot), () -> model.takeDown(plot));
+        } else if (kind < 15) {
+            arrive(drawOver(0, 3), drawOver(0, random.nextInt(4) == 0 ? 999 : 150));
+        } else if (kind < 17) {
+            found(drawOver(0, 24), drawOver(1, random.nextBoolean() ? 99 : 20), drawOver(1, 12));
+        } else {
+            callMore(kind);
+        }
+    }
+
+    private void callMore(int kind) {
+        int a = drawOver(0, 12);
+        int b = drawOver(1, 50);
+        int c = drawOver(1, 20);
+        if (kind < 19) {
+            int level = random.nextBoolean() ? 0 : drawOver(0, 10);
+            same("setRiver " + level, () -> town.setRiver(level), () -> model.setRiver(level));
+        } else if (kind < 21) {
+            int plot = drawOver(0, 24);
+            int height = drawOver(0, 9);
+            same("setHeight " + plot + " " + height, () -> town.setHeight(plot, height),
+                    () -> model.setHeight(plot, height));
+        } else if (kind < 22) {
+            int to = drawOver(0, 4);
+            same("setTolerance " + to, () -> town.setTolerance(to), () -> model.setTolerance(to));
+        } else if (kind < 26) {
+            char what = "isrisrx".charAt(random.nextInt(7));
+            int to = random.nextInt(3) == 0 ? 0 : b;
+            same("vote " + what + to, () -> town.vote(what, to), () -> model.vote(what, to));
+        } else if (kind < 27) {
+            int who = draw(0, 30);
+            same("leave " + who, () -> town.leave(who), () -> model.leave(who));
+        } else if (kind < 29) {
+            same("setPay " + a, () -> town.setPay(a, b, c), () -> model.setPay(a, b, c));
+        } else {
+            borrow(drawOver(1, 999));
+        }
+    }
+
+    private void compareAll() {
+        for (int i = -1; i <= 25; i++) {
+            comparePlot(i);
+        }
+        for (int i = -1; i <= 13; i++) {
+            compareHousehold(i);
+        }
+        for (int i = -1; i <= 7; i++) {
+            compareFirm(i);
+        }
+        for (int i = -2; i <= 113; i++) {
+            int account = i;
+            same("balance " + i, () -> town.balance(account), () -> model.balance(account));
+            same("balanceAnew " + i, () -> town.balanceAnew(account), () -> model.balance(account));
+        }
+        for (char what : "isrtxw".toCharArray()) {
+            same("law " + what, () -> town.law(what), () -> model.law(what));
+        }
+        compareTown();
+    }
+
+    private void comparePlot(int i) {
+        same("builtOn " + i, () -> town.builtOn(i), () -> model.builtOn(i));
+        same("nameOf " + i, () -> town.nameOf(i), () -> model.nameOf(i));
+        same("rentOf " + i, () -> town.rentOf(i), () -> model.rentOf(i));
+        same("load " + i, () -> town.load(i), () -> model.load(i));
+        same("hadWater " + i, () -> town.hadWater(i), () -> model.hadWater(i));
+        int other = drawOver(0, 24);
+        same("way " + i + " " + other, () -> town.way(i, other), () -> model.way(i, other));
+    }
+
+    private void compareHousehold(int i) {
+        same("homeOf " + i, () -> town.homeOf(i), () -> model.household(i)[Model.HOME]);
+        same("firmOf " + i, () -> town.firmOf(i), () -> model.household(i)[Model.FIRM]);
+        same("hungerOf " + i, () -> town.hungerOf(i), () -> model.household(i)[Model.HUNGER]);
+        same("costOf " + i, () -> town.costOf(i), () -> model.household(i)[Model.COST]);
+    }
+
+    private void compareFirm(int i) {
+        same("stockOf " + i, () -> town.stockOf(i), () -> model.firm(i)[Model.STOCK]);
+        same("creditOf " + i, () -> town.creditOf(i), () -> model.firm(i)[Model.CREDIT]);
+        same("workersOf " + i, () -> town.workersOf(i), () -> model.firm(i) == null ? -1 : model.workers(i));
+    }
+
+    private void compareTown() {
+        same("entries", town::entries, model.journal::size);
+        for (int i = -1; i <= model.journal.size(); i++) {
+            for (int what = -1; what <= 3; what++) {
+                int index = i;
+                int part = what;
+                same("entry " + i + " " + what, () -> town.entry(index, part), () -> model.entry(index, part));
+            }
+        }
+        same("bonds", town::bonds, () -> model.bonds);
+        same("failures", town::failures, () -> model.failures);
+        same("households", town::households, model::households);
+        same("money", town::money, model::money);
+        same("workingShare", town::workingShare, model::workingShare);
+        same("meanRent", town::meanRent, model::meanRent);
+        same("isBalanced", town::isBalanced, () -> true);
+    }
+}

@@ -1,3 +1,4 @@
+import java.util.NoSuchElementException;
 import java.util.Objects;
 
 /** What all tests use: each check that fails is printed, and finish() ends with exit code 1 if there was one. */
@@ -29,6 +30,36 @@ final class Checks {
             got = e.getClass();
         }
         due(what, got, want);
+    }
+
+    static void outOfBounds(String what, Call call) {
+        throwing(what, IndexOutOfBoundsException.class, call);
+    }
+
+    static void badArgument(String what, Call call) {
+        throwing(what, IllegalArgumentException.class, call);
+    }
+
+    static void badState(String what, Call call) {
+        throwing(what, IllegalStateException.class, call);
+    }
+
+    static void noElement(String what, Call call) {
+        throwing(what, NoSuchElementException.class, call);
+    }
+
+    /** A town built as the rows of signs say, five signs a row; the treasury's first money is enough for twelve. */
+    static Hundredward laid(String... rows) {
+        Hundredward town = new Hundredward();
+        for (int row = 0; row < rows.length; row++) {
+            for (int column = 0; column < rows[row].length(); column++) {
+                char kind = rows[row].charAt(column);
+                if (kind != '.') {
+                    due("build for a test", town.build(row * 5 + column, kind), true);
+                }
+            }
+        }
+        return town;
     }
 
     static void finish() {

@@ -488,7 +488,7 @@ public final class Hundredward {
         }
 
         boolean goesOver(Plot plot) {
-            return route != NO_ROUTE && (route >> plot.number & 1) == 1;
+            return route != NO_ROUTE && ((route >> plot.number) & 1) == 1;
         }
     }
 
@@ -580,7 +580,7 @@ public final class Hundredward {
             }
             addTo(balances, from, -amount);
             addTo(balances, to, amount);
-            record((from + 1 << PARTY_BITS | to + 1) << AMOUNT_BITS | amount);
+            record((((from + 1) << PARTY_BITS) | (to + 1)) << AMOUNT_BITS | amount);
         }
 
         private static void addTo(int[] accounts, int account, int amount) {
@@ -606,11 +606,11 @@ public final class Hundredward {
         }
 
         int payerIn(int index) {
-            return holds(index) ? (journal[index] >> PARTY_BITS + AMOUNT_BITS & PARTY_MASK) - 1 : OUTSIDE;
+            return holds(index) ? ((journal[index] >> (PARTY_BITS + AMOUNT_BITS)) & PARTY_MASK) - 1 : OUTSIDE;
         }
 
         int payeeIn(int index) {
-            return holds(index) ? (journal[index] >> AMOUNT_BITS & PARTY_MASK) - 1 : OUTSIDE;
+            return holds(index) ? ((journal[index] >> AMOUNT_BITS) & PARTY_MASK) - 1 : OUTSIDE;
         }
 
         int amountIn(int index) {
@@ -760,7 +760,7 @@ public final class Hundredward {
             if (number == now) {
                 return false;
             }
-            return wantsLess(town, household, what) == number < now;
+            return wantsLess(town, household, what) == (number < now);
         }
 
         private static boolean wantsLess(Town town, Household household, char what) {

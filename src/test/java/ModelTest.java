@@ -5,6 +5,8 @@ public final class ModelTest {
     private static final int RUNS = 300;
     private static final int CALLS = 60;
     private static final int MOST_ROADS = 13;
+    private static final int LONG_RUNS = 12;
+    private static final int LONG_PASSES = 25;
 
     private final Random random;
     private final String run;
@@ -26,6 +28,9 @@ public final class ModelTest {
                 test.call();
             }
             test.compareAll();
+        }
+        for (int seed = 0; seed < LONG_RUNS; seed++) {
+            new ModelTest(seed).thrive();
         }
         Checks.finish();
     }
@@ -71,6 +76,41 @@ public final class ModelTest {
         for (int i = draw(1, 10); i > 0; i--) {
             arrive(draw(0, 3), draw(0, 300));
         }
+    }
+
+    /** A town with work for all, low taxes and low rents, which lives long, so that firms repay and stocks fill up. */
+    private void thrive() {
+        String kinds = "hfhfhrsrsrhshfhrrrrrhwhhh";
+        for (int i = 0; i < 25; i++) {
+            borrow(40);
+            build(i, kinds.charAt(i));
+        }
+        for (int i = 0; i < 12; i++) {
+            arrive(3 - i / 4, 999);
+        }
+        int wage = draw(1, 4);
+        int price = draw(1, 6);
+        for (int plot : new int[] {1, 3, 13, 6, 8, 11}) {
+            found(plot, wage + (plot == 13 ? 1 : 0), price + (kinds.charAt(plot) == 's' ? draw(0, 4) : 0));
+        }
+        for (int i = 0; i < LONG_PASSES && model.households() > 0; i++) {
+            for (char what : "isr".toCharArray()) {
+                int to = what == 'r' ? 1 : 0;
+                same("vote " + what, () -> town.vote(what, to), () -> model.vote(what, to));
+            }
+            for (int firm = 0; firm < 6; firm++) {
+                adjust(firm, wage, price);
+            }
+            pass(10);
+        }
+    }
+
+    /** Dearer goods for a poor firm, and a higher wage from a rich one. */
+    private void adjust(int firm, int wage, int price) {
+        int money = model.sum(10 + firm);
+        int pay = wage + (money > 400 ? 3 : 0);
+        int asked = price + (firm < 3 ? 0 : 2) + (money < 150 ? 6 : 0);
+        same("setPay " + firm, () -> town.setPay(firm, pay, asked), () -> model.setPay(firm, pay, asked));
     }
 
     private void borrow(int amount) {

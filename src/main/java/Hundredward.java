@@ -350,6 +350,7 @@ public final class Hundredward {
         boolean wasOpen;
         // What the latest search found, for this search alone.
         int roads;
+        int step;
         int reach;
         boolean done;
 
@@ -1061,15 +1062,16 @@ public final class Hundredward {
             for (Plot plot : land.plots) {
                 plot.reach = FAR;
                 plot.done = false;
+                plot.step = stepOver(plot, worker);
             }
-            improve(worker.goal, 0, worker);
+            improve(worker.goal, 0);
             for (int i = 0; i < Land.PLOTS; i++) {
                 Plot nearest = nearestOpen(land);
                 if (nearest == null) {
                     break;
                 }
                 nearest.done = true;
-                improve(nearest, nearest.reach, worker);
+                improve(nearest, nearest.reach);
             }
             return leastBeside(worker.start);
         }
@@ -1084,10 +1086,10 @@ public final class Hundredward {
             return nearest;
         }
 
-        private static void improve(Plot from, int reach, Household worker) {
+        private static void improve(Plot from, int reach) {
             for (Plot side : from.sides) {
                 if (side != null && side.wasOpen && !side.done) {
-                    side.reach = Math.min(side.reach, reach + stepOver(side, worker));
+                    side.reach = Math.min(side.reach, reach + side.step);
                 }
             }
         }
@@ -1111,7 +1113,7 @@ public final class Hundredward {
                 at = firstBeside(at, left);
                 if (at != null) {
                     route |= 1 << at.number;
-                    left -= stepOver(at, worker);
+                    left -= at.step;
                 }
             }
             return route;

@@ -9,15 +9,26 @@ final class Checks {
 
     private static int made = 0;
     private static int wrong = 0;
+    private static String about = "";
 
     private Checks() {
+    }
+
+    /** Names the words of the document's Terms that the next checks are about; SentencesTest looks for all of them. */
+    static void terms(String... words) {
+        about = " [" + String.join(" ", words) + "]";
+    }
+
+    /** Names the row of a promise that the next checks are about; SentencesTest looks for all of them. */
+    static void promise(int number, String row) {
+        about = " [Promise " + number + ": " + row + "]";
     }
 
     static void due(String what, Object got, Object want) {
         made++;
         if (!Objects.equals(got, want)) {
             wrong++;
-            System.out.println(what + " answered " + got + ", due is " + want);
+            System.out.println(what + " answered " + got + ", due is " + want + about);
         }
     }
 

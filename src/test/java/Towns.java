@@ -1,0 +1,85 @@
+/** Towns for tests, and how their accounts are brought to a number. */
+final class Towns {
+    /** A plot that the towns of these tests leave free. */
+    private static final int SPARE = 24;
+
+    private Towns() {
+    }
+
+    /** As Checks.laid, but for towns of more than twelve buildings: bonds are taken up for the others. */
+    static Hundredward large(String... rows) {
+        Hundredward town = new Hundredward();
+        town.borrow(500);
+        for (int plot = 0; plot < 25; plot++) {
+            char kind = rows[plot / 5].charAt(plot % 5);
+            if (kind != '.') {
+                Checks.due("build for a test", town.build(plot, kind), true);
+            }
+        }
+        return town;
+    }
+
+    /** Households of skill 0, each with its money. */
+    static Hundredward peopled(Hundredward town, int... money) {
+        for (int each : money) {
+            town.arrive(0, each);
+        }
+        return town;
+    }
+
+    /** Households with 100 each, each with its skill. */
+    static Hundredward skilled(Hundredward town, int... skills) {
+        for (int each : skills) {
+            town.arrive(each, 100);
+        }
+        return town;
+    }
+
+    /** Brings the treasury to a number by roads that are built and taken down, and by a few bonds. */
+    static Hundredward treasury(Hundredward town, int left) {
+        while (town.balance(0) >= left + 40) {
+            town.build(SPARE, 'r');
+            town.takeDown(SPARE);
+        }
+        if (town.balance(0) < left) {
+            town.borrow(left - town.balance(0));
+        }
+        while (town.balance(0) > left) {
+            town.borrow(40 - (town.balance(0) - left));
+            town.build(SPARE, 'r');
+            town.takeDown(SPARE);
+        }
+        Checks.due("the treasury of a test", town.balance(0), left);
+        return town;
+    }
+
+    /** Brings the bank to a number by bonds. */
+    static Hundredward bank(Hundredward town, int left) {
+        while (town.balance(1) > left) {
+            town.borrow(Math.min(999, town.balance(1) - left));
+        }
+        Checks.due("the bank of a test", town.balance(1), left);
+        return town;
+    }
+
+    /** Lets a day go by, and answers its entries, each as from>to:amount. */
+    static String day(Hundredward town) {
+        int before = town.entries();
+        town.pass(1);
+        return since(town, before);
+    }
+
+    static String since(Hundredward town, int before) {
+        StringBuilder text = new StringBuilder();
+        for (int i = before; i < town.entries(); i++) {
+            text.append(i > before ? " " : "").append(town.entry(i, 0)).append('>').append(town.entry(i, 1));
+            text.append(':').append(town.entry(i, 2));
+        }
+        return text.toString();
+    }
+
+    /** Whether an entry is among those that day() or since() answered. */
+    static boolean has(String entries, String entry) {
+        return (" " + entries + " ").contains(" " + entry + " ");
+    }
+}

@@ -563,10 +563,6 @@ public final class Hundredward {
             pay(OUTSIDE, TREASURY, 500);
         }
 
-        boolean isAccount(int account) {
-            return account >= 0 && account < ACCOUNTS;
-        }
-
         int balanceOf(int account) {
             return account >= 0 && account < balances.length ? balances[account] : 0;
         }
@@ -688,8 +684,8 @@ public final class Hundredward {
             if (index < 0 || index >= precedents.length) {
                 return false;
             }
-            int limit = tolerance + precedents[index];
-            if (limit < 0 || objections > limit) {
+            // Less than 0 is exceeded by no objections, too.
+            if (objections > tolerance + precedents[index]) {
                 precedents[index]--;
                 return false;
             }

@@ -11,6 +11,23 @@ final class Checks {
     private static int wrong = 0;
     private static String about = "";
 
+    /** A test that does not end is one that fails. */
+    private static final long MOST_MILLISECONDS = 300_000;
+
+    static {
+        Thread guard = new Thread(() -> {
+            try {
+                Thread.sleep(MOST_MILLISECONDS);
+            } catch (InterruptedException e) {
+                return;
+            }
+            System.out.println("a test does not end" + about);
+            Runtime.getRuntime().halt(1);
+        });
+        guard.setDaemon(true);
+        guard.start();
+    }
+
     private Checks() {
     }
 

@@ -167,8 +167,8 @@ public final class EveningEdgesTest {
         Checks.terms("its bonds are gone, all waterworks are taken down, the greatest rent is 50, to which rents are cut, and both",
                 "taxes are 20.");
         Hundredward town = Checks.laid("whrsf", "....w");
-        town.build(24, 'w');
-        town.setHeight(24, 0);
+        town.build(20, 'w');
+        town.setHeight(20, 0);
         town.setRiver(1);
         town.borrow(999);
         town.borrow(900);
@@ -180,11 +180,11 @@ public final class EveningEdgesTest {
         town.pass(1);
         Checks.due("the rent", town.rentOf(1), 54);
         town.setTolerance(4);
-        drain(town);
+        Towns.spend(town, 40);
         town.pass(1);
         Checks.due("failures", town.failures(), 1);
         Checks.due("bonds", town.bonds(), 0);
-        for (int plot : new int[] {0, 9, 23, 24}) {
+        for (int plot : new int[] {0, 9, 20, 23}) {
             Checks.due("waterworks at " + plot, town.builtOn(plot), '.');
         }
         for (int plot = 1; plot < 5; plot++) {
@@ -201,21 +201,13 @@ public final class EveningEdgesTest {
         Checks.due("it fails once", town.failures(), 1);
     }
 
-    /** Brings the treasury below what its bonds cost, by roads at 20. */
-    private static void drain(Hundredward town) {
-        while (town.balance(0) >= 40) {
-            town.build(20, 'r');
-            town.takeDown(20);
-        }
-    }
-
     private static void theTownFailsAgain() {
         Hundredward town = Towns.peopled(Checks.laid("h"), 999);
         town.pass(1);
         Checks.due("a lower rent", town.vote('r', 7), true);
         for (int time = 1; time <= 2; time++) {
             town.borrow(999);
-            drain(town);
+            Towns.spend(town, 40);
             town.pass(1);
             Checks.due("failures", town.failures(), time);
             Checks.due("law r is more then", town.law('r'), 50);
@@ -225,7 +217,7 @@ public final class EveningEdgesTest {
         Hundredward taxes = Towns.peopled(new Hundredward(), 100);
         Checks.due("taxes of more than 20", taxes.vote('i', 30) && taxes.vote('s', 30), true);
         taxes.borrow(999);
-        drain(taxes);
+        Towns.spend(taxes, 40);
         taxes.pass(1);
         Checks.due("are 20 then", taxes.law('i') + taxes.law('s'), 40);
     }

@@ -151,6 +151,8 @@ public final class FirmEdgesTest {
         town.pass(1);
         Checks.due("it hires them", town.workersOf(1), 2);
         Checks.noElement("the other one stays closed", () -> town.workersOf(0));
+        Checks.badState("a firm is in the building", () -> town.takeDown(1));
+        Checks.badState("so that no other one is founded there", () -> town.found(1, 1, 1));
     }
 
     private static void closedWithNothing() {

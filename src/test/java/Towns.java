@@ -37,25 +37,29 @@ final class Towns {
 
     /** Brings the treasury to a number by roads that are built and taken down, and by a few bonds. */
     static Hundredward treasury(Hundredward town, int left) {
-        while (town.balance(0) >= left + 40) {
-            town.build(SPARE, 'r');
-            town.takeDown(SPARE);
+        spend(town, left + 40);
+        if (town.balance(0) > left) {
+            town.borrow(40 - (town.balance(0) - left));
+            spend(town, left + 40);
         }
         if (town.balance(0) < left) {
             town.borrow(left - town.balance(0));
-        }
-        while (town.balance(0) > left) {
-            town.borrow(40 - (town.balance(0) - left));
-            town.build(SPARE, 'r');
-            town.takeDown(SPARE);
         }
         Checks.due("the treasury of a test", town.balance(0), left);
         return town;
     }
 
+    /** Builds and takes down a road as long as the treasury has so much. */
+    static void spend(Hundredward town, int most) {
+        for (int i = 0; i < 100 && town.balance(0) >= most; i++) {
+            town.build(SPARE, 'r');
+            town.takeDown(SPARE);
+        }
+    }
+
     /** Brings the bank to a number by bonds. */
     static Hundredward bank(Hundredward town, int left) {
-        while (town.balance(1) > left) {
+        for (int i = 0; i < 3 && town.balance(1) > left; i++) {
             town.borrow(Math.min(999, town.balance(1) - left));
         }
         Checks.due("the bank of a test", town.balance(1), left);

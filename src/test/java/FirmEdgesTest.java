@@ -10,6 +10,7 @@ public final class FirmEdgesTest {
         closed();
         closedWithNothing();
         closedStock();
+        closedAlone();
         Checks.finish();
     }
 
@@ -184,5 +185,18 @@ public final class FirmEdgesTest {
         Checks.due("nothing in the new factory", town.stockOf(2), 0);
         Checks.due("nothing to buy for the shop", town.stockOf(0), 0);
         Checks.due("isBalanced", town.isBalanced(), true);
+    }
+
+    private static void closedAlone() {
+        Hundredward town = Towns.peopled(Checks.laid("hf.sh"), 300, 200);
+        town.found(1, 2, 1);
+        town.found(3, 96, 1);
+        town.pass(1);
+        Checks.noElement("the second firm failed", () -> town.creditOf(1));
+        Checks.due("its worker has no firm", town.firmOf(1), -1);
+        Checks.due("the worker of the first one has", town.firmOf(0), 0);
+        Checks.due("which is as it was", town.workersOf(0) * 1000 + town.creditOf(0), 1100);
+        Checks.due("with its stock", town.stockOf(0), 1);
+        Checks.due("and its money", town.balance(10), 93);
     }
 }

@@ -18,6 +18,7 @@ public final class TradeEdgesTest {
         shopsWithoutWork();
         shopOfAnUnpaidWorker();
         cheapestShop();
+        shopsWithWorkersAway();
         shopsWithStock();
         shopsByWay();
         customersThatCanPay();
@@ -380,12 +381,33 @@ public final class TradeEdgesTest {
             Checks.due(row[0] + " and " + row[1], Towns.has(day, "102>" + row[2] + ":" + price), true);
             Checks.due("one piece each", town.stockOf(0) + town.stockOf(1), 1);
         }
-        Hundredward idle = twoShops(40, 50, 10, 1);
+        Hundredward idle = twoShops(40, 10, 50, 1);
         idle.pass(1);
-        Checks.due("all three bought", idle.hungerOf(0) + idle.hungerOf(1) + idle.hungerOf(2), 0);
+        Checks.due("the first shop has nothing left", idle.stockOf(0), 0);
+        Checks.due("the other one has", idle.stockOf(1), 1);
         idle.leave(1);
         idle.setPay(1, 1, 1);
-        Checks.due("without its worker the cheaper shop sells nothing", Towns.has(Towns.day(idle), "102>11:1"), false);
+        idle.pass(1);
+        Checks.due("but it sells nothing without a worker", idle.stockOf(1), 1);
+        Checks.due("so that one is hungry", idle.hungerOf(2), 1);
+    }
+
+    /** The shop's worker comes over a road, the customer lives beside the shop. */
+    private static void shopsWithWorkersAway() {
+        for (int height = 3; height <= 4; height++) {
+            Hundredward town = Towns.skilled(Towns.peopled(Checks.laid("hrsfh", "..h.."), 300), 3);
+            town.arrive(0, 90);
+            town.found(2, 1, 10);
+            town.found(3, 1, 1);
+            town.pass(1);
+            Checks.due("the customer buys on the first day", town.hungerOf(2), 0);
+            Checks.due("pieces are left", town.stockOf(0), 2);
+            town.setHeight(1, height);
+            town.setRiver(4);
+            town.pass(1);
+            Checks.due("the worker has its firm", town.firmOf(0), 0);
+            Checks.due("the customer with a road of height " + height, town.hungerOf(2), height == 4 ? 0 : 1);
+        }
     }
 
     private static void shopsWithStock() {

@@ -13,6 +13,7 @@ public final class WayEdgesTest {
         firstRoads();
         firstFromTheHome();
         anew();
+        floodedRoads();
         served();
         servedKinds();
         servedOnce();
@@ -208,6 +209,23 @@ public final class WayEdgesTest {
         town.pass(1);
         Checks.due("the first one goes over 12 again, as the second one goes over 8", town.load(12), 1);
         loads(town, 7, 1, 8, 1, 12, 1);
+    }
+
+    /** The upper way is the shorter one; it is gone over as long as its road is not flooded. */
+    private static void floodedRoads() {
+        for (int height = 3; height <= 5; height++) {
+            Hundredward town = Towns.peopled(Checks.laid("hrf", "r.r", "rrr"), 100);
+            town.found(2, 1, 1);
+            town.setHeight(1, height);
+            town.setRiver(4);
+            town.pass(1);
+            Checks.due("with a road of height " + height, town.costOf(0), height < 4 ? 5 : 1);
+            Checks.due("over it", town.load(1), height < 4 ? 0 : 1);
+            Checks.due("round it", town.load(5), height < 4 ? 1 : 0);
+            Checks.due("isBalanced", town.isBalanced(), true);
+            town.setRiver(0);
+            Checks.due("as things were then", town.isBalanced(), true);
+        }
     }
 
     /** Waterworks at 6, with 1, 5 and 7 beside, 10 and 12 over one road, 15, 17 and 21 over two. */

@@ -90,17 +90,27 @@ public final class EveningEdgesTest {
     /** Interest and repaying of a shop with 10 less credit on each day. */
     private static void interestRoundedUp() {
         int[][] creditAndInterest = {{93, 5}, {83, 5}, {73, 4}, {63, 4}, {53, 3}, {43, 3}, {33, 2}, {23, 2}, {13, 1}, {3, 1}};
-        Hundredward town = richShop(3);
-        for (int[] pair : creditAndInterest) {
+        for (int days = 0; days < creditAndInterest.length; days++) {
+            int[] pair = creditAndInterest[days];
+            Hundredward town = richShopAfter(days);
             Checks.due("the credit", town.creditOf(0), pair[0]);
             Checks.due("a twentieth of " + pair[0], Towns.has(Towns.day(town), "10>1:" + pair[1]), true);
         }
+        Hundredward town = richShopAfter(creditAndInterest.length);
         Checks.due("no credit", town.creditOf(0), 0);
         Checks.due("no interest", Towns.day(town).contains("10>1:"), false);
         Hundredward twenty = richShop(0);
         twenty.pass(7);
         Checks.due("20", twenty.creditOf(0), 20);
         Checks.due("a twentieth of 20", Towns.has(Towns.day(twenty), "10>1:1"), true);
+    }
+
+    private static Hundredward richShopAfter(int days) {
+        Hundredward town = richShop(3);
+        for (int i = 0; i < days; i++) {
+            town.pass(1);
+        }
+        return town;
     }
 
     private static void firmsThatCannot() {

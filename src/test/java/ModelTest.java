@@ -1,3 +1,5 @@
+import java.util.ArrayList;
+import java.util.List;
 import java.util.Random;
 
 /** Runs of drawn calls, the same on the class and on the plain model of the document; all answers have to agree. */
@@ -7,11 +9,16 @@ public final class ModelTest {
     private static final int MOST_ROADS = 13;
     private static final int LONG_RUNS = 12;
     private static final int LONG_PASSES = 25;
+    private static final int MOST_CALLS = 512;
 
     private final Random random;
     private final String run;
-    private final Hundredward town = new Hundredward();
+    private Hundredward town = new Hundredward();
     private final Model model = new Model();
+    // The calls that change the town, to make it again when it has been used for as many calls as are promised.
+    private final List<Checks.Call> changes = new ArrayList<>();
+    private int calls = 0;
+    private int compared = 0;
     private int roads = 0;
 
     private ModelTest(int seed) {
@@ -27,7 +34,7 @@ public final class ModelTest {
             for (int i = 0; i < CALLS; i++) {
                 test.call();
             }
-            test.compareAll();
+            test.compareAtLast();
         }
         for (int seed = 0; seed < LONG_RUNS; seed++) {
             new ModelTest(seed).thrive();
@@ -44,7 +51,20 @@ public final class ModelTest {
     }
 
     private void same(String what, Checks.Call got, Checks.Call want) {
+        if (calls >= MOST_CALLS) {
+            town = new Hundredward();
+            for (Checks.Call change : changes) {
+                answer(change);
+            }
+            calls = changes.size();
+        }
+        calls++;
         Checks.due(run + what, answer(got), answer(want));
+    }
+
+    private void changed(String what, Checks.Call got, Checks.Call want) {
+        same(what, got, want);
+        changes.add(got);
     }
 
     private int draw(int least, int most) {
@@ -96,13 +116,14 @@ public final class ModelTest {
         for (int i = 0; i < LONG_PASSES && model.households() > 0; i++) {
             for (char what : "isr".toCharArray()) {
                 int to = what == 'r' ? 1 : 0;
-                same("vote " + what, () -> town.vote(what, to), () -> model.vote(what, to));
+                changed("vote " + what, () -> town.vote(what, to), () -> model.vote(what, to));
             }
             for (int firm = 0; firm < 6; firm++) {
                 adjust(firm, wage, price);
             }
             pass(10);
         }
+        compareAtLast();
     }
 
     /** Dearer goods for a poor firm, and a higher wage from a rich one. */
@@ -110,11 +131,11 @@ public final class ModelTest {
         int money = model.sum(10 + firm);
         int pay = wage + (money > 400 ? 3 : 0);
         int asked = price + (firm < 3 ? 0 : 2) + (money < 150 ? 6 : 0);
-        same("setPay " + firm, () -> town.setPay(firm, pay, asked), () -> model.setPay(firm, pay, asked));
+        changed("setPay " + firm, () -> town.setPay(firm, pay, asked), () -> model.setPay(firm, pay, asked));
     }
 
     private void borrow(int amount) {
-        same("borrow " + amount, () -> town.borrow(amount), () -> model.borrow(amount));
+        changed("borrow " + amount, () -> town.borrow(amount), () -> model.borrow(amount));
     }
 
     private void build(int plot, char kind) {
@@ -122,19 +143,19 @@ public final class ModelTest {
             return;
         }
         roads += kind == 'r' ? 1 : 0;
-        same("build " + plot + kind, () -> town.build(plot, kind), () -> model.build(plot, kind));
+        changed("build " + plot + kind, () -> town.build(plot, kind), () -> model.build(plot, kind));
     }
 
     private void found(int plot, int wage, int price) {
-        same("found " + plot, () -> town.found(plot, wage, price), () -> model.found(plot, wage, price));
+        changed("found " + plot, () -> town.found(plot, wage, price), () -> model.found(plot, wage, price));
     }
 
     private void arrive(int skill, int money) {
-        same("arrive " + skill + " " + money, () -> town.arrive(skill, money), () -> model.arrive(skill, money));
+        changed("arrive " + skill + " " + money, () -> town.arrive(skill, money), () -> model.arrive(skill, money));
     }
 
     private void pass(int days) {
-        same("pass " + days, () -> town.pass(days), () -> model.pass(days));
+        changed("pass " + days, () -> town.pass(days), () -> model.pass(days));
         compareAll();
     }
 
@@ -146,7 +167,7 @@ public final class ModelTest {
             build(drawOver(0, 24), "rhsfwrhhx.".charAt(random.nextInt(10)));
         } else if (kind < 12) {
             int plot = drawOver(0, 24);
-            same("takeDown " + plot, () -> town.takeDown(plot), () -> model.takeDown(plot));
+            changed("takeDown " + plot, () -> town.takeDown(plot), () -> model.takeDown(plot));
         } else if (kind < 15) {
             arrive(drawOver(0, 3), drawOver(0, random.nextInt(4) == 0 ? 999 : 150));
         } else if (kind < 17) {
@@ -162,27 +183,33 @@ public final class ModelTest {
         int c = drawOver(1, 20);
         if (kind < 19) {
             int level = random.nextBoolean() ? 0 : drawOver(0, 10);
-            same("setRiver " + level, () -> town.setRiver(level), () -> model.setRiver(level));
+            changed("setRiver " + level, () -> town.setRiver(level), () -> model.setRiver(level));
         } else if (kind < 21) {
             int plot = drawOver(0, 24);
             int height = drawOver(0, 9);
-            same("setHeight " + plot + " " + height, () -> town.setHeight(plot, height),
+            changed("setHeight " + plot + " " + height, () -> town.setHeight(plot, height),
                     () -> model.setHeight(plot, height));
         } else if (kind < 22) {
             int to = drawOver(0, 4);
-            same("setTolerance " + to, () -> town.setTolerance(to), () -> model.setTolerance(to));
+            changed("setTolerance " + to, () -> town.setTolerance(to), () -> model.setTolerance(to));
         } else if (kind < 26) {
             char what = "isrisrx".charAt(random.nextInt(7));
             int to = random.nextInt(3) == 0 ? 0 : b;
-            same("vote " + what + to, () -> town.vote(what, to), () -> model.vote(what, to));
+            changed("vote " + what + to, () -> town.vote(what, to), () -> model.vote(what, to));
         } else if (kind < 27) {
             int who = draw(0, 30);
-            same("leave " + who, () -> town.leave(who), () -> model.leave(who));
+            changed("leave " + who, () -> town.leave(who), () -> model.leave(who));
         } else if (kind < 29) {
-            same("setPay " + a, () -> town.setPay(a, b, c), () -> model.setPay(a, b, c));
+            changed("setPay " + a, () -> town.setPay(a, b, c), () -> model.setPay(a, b, c));
         } else {
             borrow(drawOver(1, 999));
         }
+    }
+
+    /** Once more all of it, with the journal from its first entry on. */
+    private void compareAtLast() {
+        compared = 0;
+        compareAll();
     }
 
     private void compareAll() {
@@ -204,6 +231,7 @@ public final class ModelTest {
             same("law " + what, () -> town.law(what), () -> model.law(what));
         }
         compareTown();
+        compareJournal();
     }
 
     private void comparePlot(int i) {
@@ -230,20 +258,29 @@ public final class ModelTest {
     }
 
     private void compareTown() {
-        same("entries", town::entries, model.journal::size);
-        for (int i = -1; i <= model.journal.size(); i++) {
-            for (int what = -1; what <= 3; what++) {
-                int index = i;
-                int part = what;
-                same("entry " + i + " " + what, () -> town.entry(index, part), () -> model.entry(index, part));
-            }
+        same("entries", () -> town.entries(), model.journal::size);
+        same("bonds", () -> town.bonds(), () -> model.bonds);
+        same("failures", () -> town.failures(), () -> model.failures);
+        same("households", () -> town.households(), model::households);
+        same("money", () -> town.money(), model::money);
+        same("workingShare", () -> town.workingShare(), model::workingShare);
+        same("meanRent", () -> town.meanRent(), model::meanRent);
+        same("isBalanced", () -> town.isBalanced(), () -> true);
+    }
+
+    /** The entries that came since the last time, and those beyond both ends. */
+    private void compareJournal() {
+        compareEntry(-1);
+        for (int i = compared; i <= model.journal.size(); i++) {
+            compareEntry(i);
         }
-        same("bonds", town::bonds, () -> model.bonds);
-        same("failures", town::failures, () -> model.failures);
-        same("households", town::households, model::households);
-        same("money", town::money, model::money);
-        same("workingShare", town::workingShare, model::workingShare);
-        same("meanRent", town::meanRent, model::meanRent);
-        same("isBalanced", town::isBalanced, () -> true);
+        compared = model.journal.size();
+    }
+
+    private void compareEntry(int index) {
+        for (int what = -1; what <= 3; what++) {
+            int part = what;
+            same("entry " + index + " " + what, () -> town.entry(index, part), () -> model.entry(index, part));
+        }
     }
 }

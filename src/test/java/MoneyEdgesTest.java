@@ -24,11 +24,19 @@ public final class MoneyEdgesTest {
         return town;
     }
 
-    private static int summed(Hundredward town, int account) {
+    private static Hundredward busyFor(int days) {
+        Hundredward town = busy();
+        for (int day = 0; day < days; day++) {
+            town.pass(1);
+        }
+        return town;
+    }
+
+    private static int summed(int[][] journal, int account) {
         int sum = 0;
-        for (int i = 0; i < town.entries(); i++) {
-            sum += town.entry(i, 1) == account ? town.entry(i, 2) : 0;
-            sum -= town.entry(i, 0) == account ? town.entry(i, 2) : 0;
+        for (int[] entry : journal) {
+            sum += entry[1] == account ? entry[2] : 0;
+            sum -= entry[0] == account ? entry[2] : 0;
         }
         return sum;
     }
@@ -37,36 +45,29 @@ public final class MoneyEdgesTest {
 
     private static void balances() {
         Checks.terms("Every book balances, and is the sum of its journal.");
-        Hundredward town = busy();
         for (int day = 0; day < 12; day++) {
+            int days = day;
+            int[][] journal = Towns.journal(() -> busyFor(days));
+            Hundredward town = busyFor(days);
             long all = 0;
             for (int account : BUSY_ACCOUNTS) {
-                Checks.due("balance " + account, town.balance(account), summed(town, account));
-                Checks.due("balanceAnew " + account, town.balanceAnew(account), summed(town, account));
+                Checks.due("balance " + account, town.balance(account), summed(journal, account));
+                Checks.due("balanceAnew " + account, town.balanceAnew(account), summed(journal, account));
                 all += town.balance(account);
             }
             Checks.due("money", town.money(), all);
-            Checks.due("what is made less what left", town.money(), -(long) summed(town, -1));
+            Checks.due("what is made less what left", town.money(), -(long) summed(journal, -1));
             Checks.due("isBalanced", town.isBalanced(), true);
-            town.pass(1);
         }
     }
 
     private static void accounts() {
         Checks.terms("Accounts: 0 the treasury, 1 the bank, 2 the builders, 10 and more the firms, 100 and more the",
                 "households, each with its number added.");
-        Hundredward town = Checks.laid("ffffs", "s....");
-        only(town, 0, 0);
-        town.found(0, 1, 1);
-        Towns.peopled(town, 7);
-        only(town, 1, 1);
-        for (int plot = 1; plot < 6; plot++) {
-            town.found(plot, 1, 1);
-        }
-        for (int i = 1; i < 12; i++) {
-            town.arrive(0, 7 + i);
-        }
-        only(town, 6, 12);
+        only(withAccounts(0, 0), 0, 0);
+        only(withAccounts(1, 1), 1, 1);
+        only(withAccounts(6, 12), 6, 12);
+        Hundredward town = withAccounts(6, 12);
         Checks.due("the treasury", town.balance(0), 500 - 6 * 40);
         Checks.due("the bank", town.balance(1), 2000 - 6 * 100);
         Checks.due("the builders", town.balance(2), 6 * 40);
@@ -77,6 +78,17 @@ public final class MoneyEdgesTest {
         town.leave(11);
         only(town, 6, 12);
         Checks.due("one that left has its account", town.balance(111), 0);
+    }
+
+    private static Hundredward withAccounts(int firms, int households) {
+        Hundredward town = Checks.laid("ffffs", "s....");
+        for (int plot = 0; plot < firms; plot++) {
+            town.found(plot, 1, 1);
+        }
+        for (int i = 0; i < households; i++) {
+            town.arrive(0, 7 + i);
+        }
+        return town;
     }
 
     /** Asks for all numbers round the accounts; those that there never were throw. */
@@ -226,20 +238,20 @@ public final class MoneyEdgesTest {
 
     private static void neverLess() {
         Hundredward town = busy();
-        for (int day = 0; day < 40; day++) {
+        for (int day = 0; day < 30; day++) {
             town.pass(1);
             for (int account : BUSY_ACCOUNTS) {
                 Checks.due("account " + account + " is not less", town.balance(account) >= 0, true);
             }
         }
         int[] running = new int[106];
-        for (int i = 0; i < town.entries(); i++) {
-            if (town.entry(i, 0) >= 0) {
-                running[town.entry(i, 0)] -= town.entry(i, 2);
-                Checks.due("nor within a day, entry " + i, running[town.entry(i, 0)] >= 0, true);
+        for (int[] entry : Towns.journal(() -> busyFor(40))) {
+            if (entry[0] >= 0) {
+                running[entry[0]] -= entry[2];
+                Checks.due("nor within a day, account " + entry[0], running[entry[0]] >= 0, true);
             }
-            if (town.entry(i, 1) >= 0) {
-                running[town.entry(i, 1)] += town.entry(i, 2);
+            if (entry[1] >= 0) {
+                running[entry[1]] += entry[2];
             }
         }
     }

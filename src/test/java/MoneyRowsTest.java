@@ -149,24 +149,32 @@ public final class MoneyRowsTest {
                 Checks.due("entry " + index + " " + what, town.entry(index, what), due[index][what]);
             }
         }
-        Hundredward many = new Hundredward();
-        many.arrive(0, 999);
-        for (int i = 0; i < 12; i++) {
-            many.build(i, 'r');
+        for (int first = 0; first < 400; first += 25) {
+            Hundredward many = many();
+            for (int i = first; i < first + 25; i++) {
+                Checks.due("bond " + i, many.entry(15 + i, 2), 1 + i % 4);
+                Checks.due("from the bank", many.entry(15 + i, 0), 1);
+                Checks.due("to the treasury", many.entry(15 + i, 1), 0);
+            }
+            Checks.due("the first one is as it was", many.entry(0, 2), 2000);
         }
-        for (int i = 0; i < 400; i++) {
-            many.borrow(1 + i % 4);
-        }
-        for (int i = 0; i < 400; i++) {
-            Checks.due("bond " + i, many.entry(15 + i, 2), 1 + i % 4);
-            Checks.due("from the bank", many.entry(15 + i, 0), 1);
-            Checks.due("to the treasury", many.entry(15 + i, 1), 0);
-        }
-        Checks.due("the first one is as it was", many.entry(0, 2), 2000);
         Checks.promise(31, "Throws `IndexOutOfBoundsException` if there is no such entry or number");
-        Ranges.beyond(0, 414, OUT, () -> many, (of, index) -> of.entry(index, 0));
-        Ranges.beyond(0, 2, OUT, () -> many, (of, what) -> of.entry(414, what));
+        Ranges.beyond(0, 414, OUT, MoneyRowsTest::many, (of, index) -> of.entry(index, 0));
+        Ranges.beyond(0, 2, OUT, MoneyRowsTest::many, (of, what) -> of.entry(414, what));
         Checks.outOfBounds("neither", () -> town.entry(5, 3));
+    }
+
+    /** The two first entries, one of 999, twelve of 40, and then 400 small bonds. */
+    private static Hundredward many() {
+        Hundredward town = new Hundredward();
+        town.arrive(0, 999);
+        for (int i = 0; i < 12; i++) {
+            town.build(i, 'r');
+        }
+        for (int i = 0; i < 400; i++) {
+            town.borrow(1 + i % 4);
+        }
+        return town;
     }
 
     private static void bonds() {

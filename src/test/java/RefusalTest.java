@@ -1,4 +1,5 @@
 import java.util.NoSuchElementException;
+import java.util.function.Supplier;
 
 /** Terms, Exceptions: a call that throws changes nothing, and of several exceptions the first of the list is thrown. */
 public final class RefusalTest {
@@ -49,8 +50,10 @@ public final class RefusalTest {
     private static String later(Hundredward town) {
         StringBuilder text = new StringBuilder();
         town.setRiver(4);
+        // Without tolerance, each precedent that should not be there shows: one home is beside 17, and none beside 15.
+        town.setTolerance(0);
         for (int plot : new int[] {15, 17, 19, 21, 22}) {
-            for (char kind : "fwr".toCharArray()) {
+            for (char kind : "fwrhs".toCharArray()) {
                 if (town.balance(0) < 40) {
                     town.borrow(40);
                 }
@@ -62,19 +65,44 @@ public final class RefusalTest {
         }
         text.append(town.vote('i', 11)).append(town.vote('s', 4)).append(town.vote('r', 9));
         text.append(town.setHeight(0, 1)).append(town.setHeight(24, 6)).append(town.setTolerance(2));
-        text.append(town.pass(2)).append(State.of(town));
+        text.append(town.pass(2));
         return text.toString();
     }
 
-    private static final String LATER = later(busy());
+    private static Hundredward passed(Hundredward town) {
+        later(town);
+        return town;
+    }
+
+    private static final String BUSY = State.of(RefusalTest::busy);
+    private static final String ANSWERS = later(busy());
+    private static final String LATER = State.of(() -> passed(busy()));
+
+    /** A town that refused a call. */
+    private static Hundredward after(String what, Class<? extends RuntimeException> want, Hundredward town, OfTown call) {
+        Checks.throwing(what, want, () -> call.answer(town));
+        return town;
+    }
 
     private static void refused(String what, Class<? extends RuntimeException> want, OfTown call) {
-        Hundredward town = busy();
-        String before = State.of(town);
-        Checks.throwing(what, want, () -> call.answer(town));
-        Checks.due("after " + what, State.change(before, State.of(town)), "none");
-        Checks.throwing(what + " once more", want, () -> call.answer(town));
-        Checks.due("later than " + what, State.change(LATER, later(town)), "none");
+        Supplier<Hundredward> made = () -> after(what, want, busy(), call);
+        Checks.due("after " + what, State.change(BUSY, State.of(made)), "none");
+        Hundredward twice = after(what + " once more", want, made.get(), call);
+        Checks.due("answers after " + what, later(twice), ANSWERS);
+        Checks.due("later than " + what, State.change(LATER, State.of(() -> passed(made.get()))), "none");
+    }
+
+    /** The state of a town of another kind than busy() is not changed by calls that are refused. */
+    private static void unchanged(Supplier<Hundredward> made, Class<? extends RuntimeException> want, OfTown... calls) {
+        String before = State.of(made);
+        String after = State.of(() -> {
+            Hundredward town = made.get();
+            for (OfTown call : calls) {
+                after("refused", want, town, call);
+            }
+            return town;
+        });
+        Checks.due("after those", State.change(before, after), "none");
     }
 
     private static void ofLand() {
@@ -123,19 +151,23 @@ public final class RefusalTest {
 
     /** A demand that the treasury cannot pay is no refusal that counts, and no precedent. */
     private static void poor(char kind) {
-        Hundredward town = Towns.peopled(Checks.laid("hs"), 100);
-        town.found(1, 1, 1);
-        town.pass(1);
-        Towns.treasury(town, 39);
-        String before = State.of(town);
+        OfTown demand = of -> of.build(5, kind);
+        unchanged(RefusalTest::poorTown, STATE, demand, demand, demand);
+        Hundredward town = poorTown();
         for (int i = 0; i < 3; i++) {
             Checks.badState("39 for " + kind, () -> town.build(5, kind));
         }
-        Checks.due("after those", State.change(before, State.of(town)), "none");
         town.borrow(200);
         town.setTolerance(0);
         Checks.due("none was a refusal", town.build(23, kind), true);
         Checks.due("none was a precedent", town.build(5, kind), false);
+    }
+
+    private static Hundredward poorTown() {
+        Hundredward town = Towns.peopled(Checks.laid("hs"), 100);
+        town.found(1, 1, 1);
+        town.pass(1);
+        return Towns.treasury(town, 39);
     }
 
     private static void ofLaws() {
@@ -198,20 +230,22 @@ public final class RefusalTest {
             refused("creditOf " + number, OUT, town -> town.creditOf(number));
             refused("workersOf " + number, OUT, town -> town.workersOf(number));
         }
-        Hundredward failed = Towns.peopled(Checks.laid("hf"), 100);
-        failed.found(1, 96, 1);
-        failed.pass(1);
-        String before = State.of(failed);
-        Checks.noElement("setPay of one that failed", () -> failed.setPay(0, 1, 1));
-        Checks.noElement("stockOf one that failed", () -> failed.stockOf(0));
-        Checks.due("after those", State.change(before, State.of(failed)), "none");
+        unchanged(RefusalTest::failedTown, NONE, town -> town.setPay(0, 1, 1), town -> town.stockOf(0),
+                town -> town.creditOf(0), town -> town.workersOf(0));
+        unchanged(() -> Towns.bank(Checks.laid("s"), 99), STATE, town -> town.found(0, 1, 1));
         Hundredward poor = Towns.bank(Checks.laid("s"), 99);
-        String then = State.of(poor);
         Checks.badState("found with 99 in the bank", () -> poor.found(0, 1, 1));
-        Checks.due("after that", State.change(then, State.of(poor)), "none");
         poor.build(1, 'h');
         poor.pass(1);
         Checks.due("the next one is the first", poor.found(0, 1, 1), 0);
+    }
+
+    /** A town whose only firm failed. */
+    private static Hundredward failedTown() {
+        Hundredward town = Towns.peopled(Checks.laid("hf"), 100);
+        town.found(1, 96, 1);
+        town.pass(1);
+        return town;
     }
 
     private static void ofMoney() {
@@ -233,11 +267,7 @@ public final class RefusalTest {
         refused("entry before the first", OUT, town -> town.entry(-1, 0));
         refused("entry part 3", OUT, town -> town.entry(0, 3));
         refused("entry part -1", OUT, town -> town.entry(0, -1));
-        Hundredward empty = new Hundredward();
-        String before = State.of(empty);
-        Checks.throwing("workingShare", ArithmeticException.class, empty::workingShare);
-        Checks.throwing("meanRent", ArithmeticException.class, empty::meanRent);
-        Checks.due("after those", State.change(before, State.of(empty)), "none");
+        unchanged(Hundredward::new, ArithmeticException.class, Hundredward::workingShare, Hundredward::meanRent);
     }
 
     private static void first(String what, Class<? extends RuntimeException> want, OfTown call) {
@@ -270,9 +300,7 @@ public final class RefusalTest {
         first("found: out of range, 6 were founded", BAD, town -> town.found(18, 0, 1));
         first("found: out of range, a home", BAD, town -> town.found(2, 1, 100));
         first("setPay: no firm, out of range", OUT, town -> town.setPay(6, 0, 0));
-        Hundredward failed = Towns.peopled(Checks.laid("hf"), 100);
-        failed.found(1, 96, 1);
-        failed.pass(1);
+        Hundredward failed = failedTown();
         Checks.noElement("setPay: not there, out of range", () -> failed.setPay(0, 0, 100));
         Checks.outOfBounds("setPay: never there, out of range", () -> failed.setPay(1, 0, 100));
     }

@@ -1,7 +1,10 @@
+import java.util.function.Supplier;
+
 /** Towns for tests, and how their accounts are brought to a number. */
 final class Towns {
     /** A plot that the towns of these tests leave free. */
     private static final int SPARE = 24;
+    private static final int PART = 100;
 
     private Towns() {
     }
@@ -75,11 +78,24 @@ final class Towns {
 
     static String since(Hundredward town, int before) {
         StringBuilder text = new StringBuilder();
-        for (int i = before; i < town.entries(); i++) {
+        int end = town.entries();
+        for (int i = before; i < end; i++) {
             text.append(i > before ? " " : "").append(town.entry(i, 0)).append('>').append(town.entry(i, 1));
             text.append(':').append(town.entry(i, 2));
         }
         return text.toString();
+    }
+
+    /** The whole journal; of a long one each town tells a part, as none is used for more than 512 calls. */
+    static int[][] journal(Supplier<Hundredward> made) {
+        int[][] all = new int[made.get().entries()][];
+        for (int first = 0; first < all.length; first += PART) {
+            Hundredward town = made.get();
+            for (int i = first; i < Math.min(all.length, first + PART); i++) {
+                all[i] = new int[] {town.entry(i, 0), town.entry(i, 1), town.entry(i, 2)};
+            }
+        }
+        return all;
     }
 
     /** Whether an entry is among those that day() or since() answered. */
